@@ -261,7 +261,9 @@ public final class PromisesTest {
         setRange(x, 0, 1, 1, 1, 2);
         setRange(x, 1, 1, 3, 1, 4);
         setRange(x, 2, 0, 0, 0, 1);
+        setRange(x, 3, 1, 0, 1, 0);
         due("replace(1, 1, 2, 789)", x.replace(1, 1, 2, 789), 5);
+        dueRange("below a", x, 3, 1, 0, 1, 0);
         dueRange("at a, and above a", x, 0, 1, 1, 1, 1);
         dueRange("at a + c, and above that", x, 1, 1, 1, 1, 5);
         dueRange("elsewhere", x, 2, 0, 0, 0, 1);
@@ -382,6 +384,11 @@ public final class PromisesTest {
         due("replace(6, 0, 1, -1)", x.replace(6, 0, 1, -1), 8);
         due("join(2), 12 letters", x.join(2), 6);
         dueItems("full", x, 2, 1, 2, 3, 4, 2, 2, 2, 2, 1, 1, 1, 1);
+        x = oneText();
+        due("split(1, 2)", x.split(1, 2), 2);
+        due("take(2)", x.take(2), 1);
+        due("join(1), the next one was taken out", x.join(1), -2);
+        dueItems("nothing changed", x, 1, 1, 2);
     }
 
     private static void setStart() {
