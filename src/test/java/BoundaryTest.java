@@ -926,6 +926,18 @@ public final class BoundaryTest {
 
     // ---- Promise 5
 
+    private static void takeNoNode() {
+        sentence("Promise 5", "Node: -1");
+        Run run = busy();
+        for (int n : NO_NODES) {
+            run.refused(-1, "take", n);
+        }
+        run = deep();
+        run.refused(-1, "take", 24);
+        run.refused(-1, "take", -1);
+        run.due(0, "take", 23);
+    }
+
     private static void takeWithoutParent() {
         sentence("Promise 5", "it has no parent: -2");
         Run run = busy();
@@ -1593,6 +1605,20 @@ public final class BoundaryTest {
         }
     }
 
+    private static void eraseLeavesAnEmptyRange() {
+        sentence("Promise 11", "At last start and end of this range both become (x, y)");
+        for (int i = 0; i < IN_ORDER.length; i++) {
+            for (int j = i; j < IN_ORDER.length; j++) {
+                Run run = family();
+                run.set(3, IN_ORDER[i][0], IN_ORDER[i][1], IN_ORDER[j][0], IN_ORDER[j][1]);
+                run.call("erase", 3);
+                run.due(0, "compare", 3, 0, 3, 1);
+                run.due(0, "letters", 3);
+                run.same(0, "erase", 3);
+            }
+        }
+    }
+
     // ---- Promises 12 to 16
 
     private static void nodesOneTo24() {
@@ -1744,6 +1770,22 @@ public final class BoundaryTest {
             run.same(-2, "compare", 0, 0, 0, which);
             run.same(-2, "compare", 3, 1, 3, which);
         }
+    }
+
+    private static void compareStartsAndEnds() {
+        sentence("Promise 19", "-1 if it is before it, 0 if they are one place, 1 if it is behind it");
+        Run run = family();
+        run.set(0, 2, 0, 2, 4);
+        run.set(1, 2, 4, 0, 2);
+        run.set(2, 0, 1, 0, 2);
+        run.due(0, "compare", 0, 1, 1, 0);
+        run.due(0, "compare", 1, 1, 2, 1);
+        run.due(-1, "compare", 0, 1, 1, 1);
+        run.due(1, "compare", 1, 1, 0, 1);
+        run.due(1, "compare", 0, 0, 2, 0);
+        run.due(-1, "compare", 2, 0, 0, 0);
+        run.due(-1, "compare", 3, 0, 2, 0);
+        run.due(0, "compare", 3, 0, 3, 1);
     }
 
     private static void compareOtherTrees() {
@@ -1956,6 +1998,7 @@ public final class BoundaryTest {
         putAtNoIndex();
         putAnswersTheSize();
         putCountsWithoutTheChild();
+        takeNoNode();
         takeWithoutParent();
         takeAnswersTheIndex();
         replaceNoText();
@@ -1995,6 +2038,7 @@ public final class BoundaryTest {
         eraseUpwards();
         eraseNotWhatIsBelow();
         eraseMovesOthers();
+        eraseLeavesAnEmptyRange();
     }
 
     private static void promises12To22() {
@@ -2007,6 +2051,7 @@ public final class BoundaryTest {
         nodeOfNoRange();
         offsetOfNoRange();
         compareNoRange();
+        compareStartsAndEnds();
         compareOtherTrees();
         lettersBetweenAnyTwo();
         lettersOfNoRange();
