@@ -906,6 +906,28 @@ public final class BoundaryTest {
         run.due(1, "item", 0, 0);
     }
 
+    /** Letters ahead of the last puts, so that a row of children that runs over its room would show. */
+    private static void putTheMostChildren() {
+        sentence("Promise 4", "Puts a node in as the child of an element with an index");
+        for (int index = 0; index <= 22; index += 11) {
+            Run run = full();
+            for (int n = 1; n < 24; n++) {
+                run.due(2, "replace", n, 0, 0, 45);
+            }
+            for (int n = 1; n < 24; n++) {
+                run.due(n, "put", 0, n, Math.min(index, n - 1));
+            }
+            for (int n = 1; n < 24; n++) {
+                run.dueItems(n, 4, 5);
+            }
+            run.due(0, "take", run.call("item", 0, 0));
+            run.due(21, "take", run.call("item", 0, 21));
+            for (int n = 1; n < 24; n++) {
+                run.dueItems(n, 4, 5);
+            }
+        }
+    }
+
     private static void putCountsWithoutTheChild() {
         sentence("Promise 23", "-3 counts the children of the parent without the child, if it is one of them");
         for (int child = 1; child <= 3; child++) {
@@ -1997,6 +2019,7 @@ public final class BoundaryTest {
         putTheRootOrIntoItself();
         putAtNoIndex();
         putAnswersTheSize();
+        putTheMostChildren();
         putCountsWithoutTheChild();
         takeNoNode();
         takeWithoutParent();
